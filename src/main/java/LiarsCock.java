@@ -650,6 +650,7 @@ public final class LiarsCock {
         static final int UNKNOWN = 1;
         static final int WORD = 2;
         static final int NUMBER = 3;
+        /** Any other sign: those that are none are never wanted, and so wrong like one that can't stand there. */
         static final int SIGN = 4;
 
         /** WORDS are held as feed() is given them: a byte a letter, the first one highest. */
@@ -669,7 +670,6 @@ public final class LiarsCock {
         static final long OR = 0x6F72L;
         private static final long[] TAKEN = {
             FACT, CHANCE, PLACE, BEARING, PERSON, AT, KNOWS, COMMON, COCK, LAW, LATE, NOT, AND, OR};
-        private static final char[] SIGNS = {'(', ')', '<', '=', '+', '-', '*', ';'};
 
         private final char[] signs = new char[MOST];
         private int length;
@@ -721,7 +721,7 @@ public final class LiarsCock {
             } else if (numberEnd > place) {
                 readNumber(numberEnd);
             } else {
-                kind = isKnownSign() ? SIGN : UNKNOWN;
+                kind = SIGN;
                 behind = place + 1;
             }
         }
@@ -759,15 +759,6 @@ public final class LiarsCock {
             }
             kind = end - place <= 4 ? NUMBER : UNKNOWN;
             behind = end;
-        }
-
-        private boolean isKnownSign() {
-            for (char known : SIGNS) {
-                if (sign == known) {
-                    return true;
-                }
-            }
-            return false;
         }
 
         int kind() {
@@ -1471,11 +1462,6 @@ public final class LiarsCock {
             return minute(size - 1);
         }
 
-        /** Whether no other one is behind it in the same MINUTE. */
-        boolean endsMinute(int i) {
-            return !isIn(i + 1) || minute(i + 1) != minute(i);
-        }
-
         void add(int speaker, int minute, long isSo, long isPlainLie, long isKnownLie) {
             size = Math.min(size + 1, MOST);
             set(size - 1, speaker, minute, isSo, isPlainLie, isKnownLie);
@@ -1719,7 +1705,7 @@ public final class LiarsCock {
             for (int i = 0; i < state.said.size(); i++) {
                 int minute = state.said.minute(i) + state.parish.late(cock);
                 int liar = state.said.lastLiar(state.parish, cock, minute, state.truth);
-                if (state.said.endsMinute(i) && liar != whom(size - 1)) {
+                if (liar != whom(size - 1)) {
                     add(minute, liar);
                 }
             }
@@ -1818,7 +1804,7 @@ public final class LiarsCock {
             }
             for (int i = 0; i < state.said.size(); i++) {
                 int minute = state.said.minute(i) + state.parish.late(cock);
-                if (state.said.endsMinute(i) && minute <= LAST_MINUTE) {
+                if (minute <= LAST_MINUTE) {
                     aim.take(state.said, state.parish, cock, minute, worlds);
                     note(aim, minute);
                 }

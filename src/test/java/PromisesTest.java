@@ -234,6 +234,23 @@ public final class PromisesTest {
         fault("fact ^chance;", 1);
         fault("fact ^abcdefghi;", 1);
         fault("fact a ^b;", 1);
+        fault("fact a ^fact b;", 1);
+        fault("fact a chance ^fact b;", 1);
+        fault("fact a chance 1 ^12345;", 1);
+        fault("place a bearing 1 ^fact b;", 1);
+        fault("place a bearing ^place b bearing 0;", 1);
+        fault("place a ^place b bearing 0;", 1);
+        fault("place a bearing 0;person b at a ^fact c;", 1);
+        fault("place a bearing 0;person b at ^fact c;", 1);
+        fault("common 1 ^common 1;", 1);
+        fault("cock ^cock 0 law 0 late 0;", 1);
+        fault("cock 0 ^cock 0 law 0 late 0;", 1);
+        fault("cock 0 law ^fact a;", 1);
+        fault("cock 0 law 0 ^fact a;", 1);
+        fault("cock 0 law 0 late ^fact a;", 1);
+        fault("cock 0 law 0 late 0 ^fact a;", 1);
+        fault("fact a;fact b;fact c;fact d;fact e;fact f;place p bearing 0;person q at p knows a f b e c d ^a;", 3);
+        fault("fact a;fact b;fact c;fact d;fact e;fact f;place p bearing 0;person q at p knows a f b e c d ^g;", 2);
         fault("fact a chance ^a;", 1);
         fault("fact a chance ^12345;", 1);
         fault("fact a chance ^11;", 4);
@@ -454,6 +471,11 @@ public final class PromisesTest {
         due("world 63", six.world(63), 0);
         due("world 62", six.world(62), 2);
         due("world 64", six.world(64), NONE);
+        parish(six, "fact a;fact b;fact c;fact d;fact e;fact f;place p bearing 0;person q at p knows a;common a;");
+        due("say not f", say(six, 0, 0, "not f"), 0);
+        due("lie in world 63", six.lie(0, 63), 2);
+        due("lie in world 62", six.lie(0, 62), 6);
+        due("lie in world 31", six.lie(0, 31), 1);
         x = talk();
         x.look(0, 12, 350, 90);
         due("over 0, both too", x.worlds(NONE), 3);
@@ -748,6 +770,32 @@ public final class PromisesTest {
         due("no lie", x.hide(0, 0), NONE);
         sameMinute();
         noneFits();
+        full();
+    }
+
+    /** 24 SAYINGS by turns, 5 OFFERS ahead of them and one behind them. */
+    private static void full() {
+        LiarsCock x = village("fact a;place p bearing 9;person t at p knows;place q bearing 20;person u at q knows;");
+        x.truth(1);
+        x.watch(0, 50);
+        for (int i = 1; i <= 24; i++) {
+            say(x, i % 2, i, "not a");
+        }
+        due("24 turns", x.turned(0, 1439), 24);
+        due("11 degrees each", x.round(0, 1439), 20 + 23 * 11);
+        due("the last part", x.pointed(0, 0, 0, 1439), 11 + 1416);
+        offer(x, 1, 30, "0");
+        for (int i = 1; i < 6; i++) {
+            offer(x, 1, 0, "0");
+        }
+        due("seen", x.hidden(0, 0), 0);
+        due("seen with the 5 ahead as well", x.hidden(23, 62), 0);
+        for (int i = 0; i < 24; i++) {
+            due("hidden by the one behind", x.hidden(i, 63), 1);
+        }
+        due("hide", x.hide(7, 1), 1);
+        x.watch(0, 0);
+        due("by the ones ahead", x.hidden(0, 63), 1);
     }
 
     private static void sameMinute() {

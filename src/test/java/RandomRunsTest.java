@@ -14,6 +14,9 @@ public final class RandomRunsTest {
         "cock", "law", "late", "not", "and", "or", "(", ")", "<", "=", "+", "-", "*", ";", "0", "1", "7", "360", "12345",
         "abcdefghi", "#", "A", "nobody", "rain", "tom", "gate", "0001", ",", "9999", "~"};
 
+    private static final int[] FAR = {Integer.MIN_VALUE + 1, -1440, -360, -64, -1, 0, 1, 6, 31, 32, 63, 64, 180, 360, 512,
+        1024, 1440, 4096, 65536, Integer.MAX_VALUE - 1};
+
     private final Random dice;
     private final LiarsCock cock = new LiarsCock();
     private final PlainCock plain = new PlainCock();
@@ -60,20 +63,28 @@ public final class RandomRunsTest {
         return dice.nextInt(25) == 0;
     }
 
+    /** A number that hardly any call takes. */
+    private int far() {
+        return FAR[dice.nextInt(FAR.length)] + dice.nextInt(3) - 1;
+    }
+
     private int upTo(int most) {
-        return rarely() ? dice.nextInt(12) - 3 : dice.nextInt(most + 1);
+        return rarely() ? dice.nextInt(12) : dice.nextInt(most + 1);
     }
 
     private int one(int count) {
+        if (rarely()) {
+            return far();
+        }
         return count <= 0 || rarely() ? dice.nextInt(10) - 2 : dice.nextInt(count);
     }
 
     private int minute() {
-        return rarely() ? dice.nextInt(5) * 480 - 241 : dice.nextInt(latest + 1);
+        return rarely() ? far() : dice.nextInt(latest + 1);
     }
 
     private int bearing() {
-        return rarely() ? dice.nextInt(400) - 20 : dice.nextInt(36) * 10;
+        return rarely() ? far() : dice.nextInt(36) * 10;
     }
 
     private void answer(int kind, String call, long got, long due) {
@@ -116,13 +127,13 @@ public final class RandomRunsTest {
         for (int f = rarely() ? 7 : 1 + dice.nextInt(6); f > 0; f--) {
             told.add(names.remove(0));
             s.append("fact ").append(told.get(told.size() - 1));
-            s.append(dice.nextBoolean() ? ";" : " chance " + Math.max(0, upTo(10)) + " ;");
+            s.append(dice.nextBoolean() ? ";" : " chance " + upTo(10) + " ;");
             lines -= common(s, told, lines) ? 4 : 0;
         }
         for (int p = rarely() ? 7 : 1 + dice.nextInt(6); p > 0; p--) {
             places.add(names.remove(0));
             s.append("place ").append(places.get(places.size() - 1)).append(" bearing ");
-            s.append(dice.nextInt(4) == 0 ? 0 : Math.max(0, bearing())).append("; ");
+            s.append(dice.nextInt(4) == 0 ? 0 : Math.floorMod(bearing(), 400)).append("; ");
         }
         for (int p = rarely() ? 7 : 1 + dice.nextInt(6); p > 0; p--) {
             s.append("person ").append(names.remove(0)).append(" at ");
@@ -138,7 +149,7 @@ public final class RandomRunsTest {
         for (int c = 0; c < 2; c++) {
             if (dice.nextInt(3) > 0) {
                 s.append("cock ").append(c).append(" law ").append(dice.nextInt(2)).append(" late ");
-                s.append(dice.nextBoolean() ? dice.nextInt(6) : Math.max(0, upTo(60))).append(";");
+                s.append(dice.nextBoolean() ? dice.nextInt(6) : upTo(60)).append(";");
             }
         }
         return s.toString();
@@ -206,11 +217,11 @@ public final class RandomRunsTest {
         int person = one(people);
         int fact = one(plain.count(0));
         int saying = one(plain.count(5));
-        int c = rarely() ? dice.nextInt(4) - 1 : dice.nextInt(plain.count(4));
-        int what = rarely() ? dice.nextInt(6) - 2 : dice.nextInt(2);
+        int c = rarely() ? one(0) : dice.nextInt(plain.count(4));
+        int what = rarely() ? one(0) : dice.nextInt(2);
         int from = minute();
         int to = dice.nextInt(4) > 0 ? from + dice.nextInt(30) : minute();
-        int set = rarely() ? dice.nextInt(80) - 8 : dice.nextInt(1 << people);
+        int set = rarely() ? one(70) : dice.nextInt(1 << people);
         switch (kind) {
             case 0 -> {
                 if (rarely()) {
@@ -275,8 +286,8 @@ public final class RandomRunsTest {
             + "world " + Arrays.toString(more);
         int who = dice.nextInt(4) == 0 ? PlainCock.NONE : person;
         boolean so = dice.nextBoolean();
-        int width = rarely() ? dice.nextInt(300) - 50 : dice.nextInt(181);
-        int number = rarely() ? dice.nextInt(20) : 1 + dice.nextInt(9);
+        int width = rarely() ? far() : dice.nextInt(181);
+        int number = rarely() ? one(20) : 1 + dice.nextInt(9);
         args += " who " + who + " so " + so + " width " + width + " number " + number;
         switch (kind) {
             case 11 -> answer(kind, args, cock.world(world), plain.world(world));
