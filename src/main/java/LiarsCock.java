@@ -691,10 +691,10 @@ public final class LiarsCock {
 
         void put(long eight) {
             for (int shift = 56; shift >= 0; shift -= 8) {
-                char sign = (char) (eight >>> shift & 255);
-                boolean fits = sign == 10 || (sign >= 32 && sign <= 126);
+                char added = (char) (eight >>> shift & 255);
+                boolean fits = added == 10 || (added >= 32 && added <= 126);
                 if (fits && length >= 0 && length < signs.length) {
-                    signs[length] = sign;
+                    signs[length] = added;
                     length++;
                 }
             }
