@@ -2,23 +2,13 @@ import java.lang.reflect.Constructor;
 import java.lang.reflect.Field;
 import java.lang.reflect.Method;
 import java.lang.reflect.Modifier;
-import java.nio.charset.StandardCharsets;
 import java.util.Arrays;
 import java.util.NoSuchElementException;
 import java.util.Set;
 import java.util.TreeSet;
 
 /** At least one test for each promise: ordinary inputs, the edges that the document names, wrong inputs. */
-public final class PromisesTest {
-    private static final int NONE = -1;
-    private static int wrong = 0;
-    private static int asked = 0;
-
-    /** Two FACTS and three PEOPLE: tom at 90 knows rain, sue at 270 knows both, bob at 350 knows nothing. */
-    private static final String VILLAGE = "fact rain; fact theft chance 2; place gate bearing 90; place inn bearing 270;"
-        + "place mill bearing 350; person tom at gate knows rain; person sue at inn knows rain theft;"
-        + "person bob at mill knows; common rain or not theft; cock 0 law 0 late 2; cock 1 law 1 late 0;";
-
+public final class PromisesTest extends Kit {
     public static void main(String[] args) {
         face();
         newObject();
@@ -52,66 +42,7 @@ public final class PromisesTest {
         mark();
         count();
         unasked();
-        System.out.println(wrong == 0 ? asked + " answers are as due" : wrong + " answers are not as due");
-        if (wrong != 0) {
-            System.exit(1);
-        }
-    }
-
-    private static void due(String what, long got, long want) {
-        asked++;
-        if (got != want) {
-            wrong++;
-            System.out.println(what + ": answered " + got + ", due is " + want);
-        }
-    }
-
-    private static void due(String what, boolean got, boolean want) {
-        due(what, got ? 1 : 0, want ? 1 : 0);
-    }
-
-    private static int feed(LiarsCock x, String text) {
-        byte[] signs = Arrays.copyOf(text.getBytes(StandardCharsets.ISO_8859_1), (text.length() + 23) / 24 * 24);
-        int length = x.count(10);
-        for (int i = 0; i < signs.length; i += 24) {
-            long[] three = new long[3];
-            for (int j = 0; j < 24; j++) {
-                three[j / 8] = three[j / 8] << 8 | signs[i + j] & 255;
-            }
-            length = x.feed(three[0], three[1], three[2]);
-        }
-        return length;
-    }
-
-    private static int parish(LiarsCock x, String text) {
-        feed(x, text);
-        return x.parish();
-    }
-
-    private static int say(LiarsCock x, int person, int minute, String text) {
-        feed(x, text);
-        return x.say(person, minute);
-    }
-
-    private static int offer(LiarsCock x, int person, int minute, String text) {
-        feed(x, text);
-        return x.offer(person, minute);
-    }
-
-    private static LiarsCock village(String text) {
-        LiarsCock x = new LiarsCock();
-        due("parish " + text, parish(x, text), 0);
-        return x;
-    }
-
-    /** Tom says at 10 that it did not rain, sue at 20 that there was theft, tom asks at 30; it rained only. */
-    private static LiarsCock talk() {
-        LiarsCock x = village(VILLAGE);
-        x.truth(1);
-        due("say not rain", say(x, 0, 10, "not rain"), 0);
-        due("say theft", say(x, 1, 20, "theft"), 0);
-        due("ask", x.say(0, 30), 0);
-        return x;
+        end();
     }
 
     // ---- the public face
