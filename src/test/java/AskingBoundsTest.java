@@ -23,6 +23,7 @@ public final class AskingBoundsTest extends Kit {
         lowestTerms();
         proofBounds();
         proofOfAll();
+        fewerAheadOfLess();
         clashBounds();
         clashOfAll();
         nextAndFogBounds();
@@ -38,6 +39,8 @@ public final class AskingBoundsTest extends Kit {
         shorterWay();
         pointedBounds();
         pointedEnds();
+        eachLookAndWatchOfItsCock();
+        hiddenEach();
         hiddenBounds();
         hiddenByAll();
         hiddenByNone();
@@ -386,6 +389,48 @@ public final class AskingBoundsTest extends Kit {
         due("of WORLDS 4 and 6", x.clash(1), 16 + 64);
     }
 
+    /** The fewest, of equal ones the least as bits: one of 4 is fewer than both of 3. */
+    private static void fewerAheadOfLess() {
+        LiarsCock x = village(TWO + "place r bearing 300;person v at r knows;");
+        say(x, 0, 5, "a");
+        say(x, 2, 10, "0");
+        say(x, 0, 15, "b");
+        say(x, 2, 16, "0");
+        say(x, 1, 20, "a or b");
+        x.look(0, 5, 9, 9);
+        x.look(0, 15, 9, 9);
+        due("PROOF by two", x.proof(4, 1), 3);
+        x.look(0, 20, 200, 200);
+        due("PROOF by one", x.proof(4, 0), 1);
+        due("PROOF by one", x.proof(4, 1), 4);
+        LiarsCock y = village(TWO + "common a or b;place r bearing 300;person v at r knows;");
+        say(y, 0, 5, "a");
+        say(y, 2, 10, "0");
+        say(y, 0, 15, "b");
+        y.look(0, 5, 9, 9);
+        y.look(0, 15, 9, 9);
+        due("CLASH of two", y.clash(1), 3);
+        y.look(0, 15, 1, 1);
+        due("CLASH of one", y.clash(0), 1);
+        due("CLASH of one", y.clash(1), 4);
+        LiarsCock z = village(TWO);
+        z.truth(1);
+        say(z, 0, 5, "not a");
+        z.watch(0, 7);
+        offer(z, 1, 6, "not a");
+        offer(z, 1, 6, "a");
+        due("HIDE by two", z.hide(0, 1), 3);
+        offer(z, 1, 6, "0");
+        due("HIDE by one", z.hide(0, 0), 1);
+        due("HIDE by one", z.hide(0, 1), 4);
+        LiarsCock w = village("fact a;fact b;fact c;common c = a * b;place p bearing 0;person t at p knows a;"
+            + "person u at p knows b;person v at p knows c;");
+        w.truth(7);
+        due("FEWEST: both tell c", w.told(3), 7);
+        due("FEWEST by one", w.fewest(2, 0), 1);
+        due("FEWEST by one", w.fewest(2, 1), 4);
+    }
+
     // ---- Promises 18, 19
 
     private static void nextAndFogBounds() {
@@ -416,11 +461,20 @@ public final class AskingBoundsTest extends Kit {
         say(x, 1, 30, "b");
         say(x, 0, 1380, "not b");
         int[][] want = {{0, 1439, 30, 1, 3}, {0, 29, 20, 2, 2}, {0, 19, 0, 3, 1}, {0, 20, 20, 2, 2}, {20, 20, 20, 2, 2}, {19, 19, 19, 3, 1},
-            {21, 29, 21, 2, 2}, {0, 0, 0, 3, 1}, {1439, 1439, 1439, 2, 2}, {5, 19, 5, 3, 1}};
+            {21, 29, 21, 2, 2}, {0, 0, 0, 3, 1}, {1439, 1439, 1439, 2, 2}, {5, 19, 5, 3, 1},
+            {5, 1439, 30, 1, 3}, {1, 25, 20, 2, 2}, {20, 30, 30, 1, 3}, {31, 1439, 31, 1, 3}};
         for (int[] w : want) {
             due("next " + w[0] + " .. " + w[1], x.next(0, w[0], w[1], 0), w[2]);
             due("left " + w[0] + " .. " + w[1], x.next(0, w[0], w[1], 1), w[3]);
             due("fog " + w[0] + " .. " + w[1], x.fog(0, w[0], w[1], 1), w[4]);
+        }
+        int[][] late = {{0, 79, 0, 3, 1}, {30, 80, 80, 2, 2}, {80, 89, 80, 2, 2}, {0, 1439, 90, 1, 3}, {30, 30, 30, 3, 1},
+            {1439, 1439, 1439, 1, 3}};
+        for (int[] w : late) {
+            due("60 late, next " + w[0] + " .. " + w[1], x.next(1, w[0], w[1], 0), w[2]);
+            due("60 late, left " + w[0] + " .. " + w[1], x.next(1, w[0], w[1], 1), w[3]);
+            due("60 late, fog in " + w[0] + " .. " + w[1], x.fog(1, w[0], w[1], 0), w[2]);
+            due("60 late, fog " + w[0] + " .. " + w[1], x.fog(1, w[0], w[1], 1), w[4]);
         }
         due("fog 0 .. 1439", x.fog(0, 0, 1439, 0), 30);
         due("three bearings in 30", x.fog(0, 30, 30, 1), 3);
@@ -482,6 +536,8 @@ public final class AskingBoundsTest extends Kit {
         due("no WORLD CAN BE", x.learns(1, 1, true, 0, 0), NONE);
         for (int late : new int[] {0, 1, 60}) {
             LiarsCock y = village(TWO + "cock 0 law 0 late " + late + ";");
+            LiarsCock z = village(TWO + "cock 1 law 0 late " + late + ";");
+            due("cock 1, late " + late, z.learns(1, 1, true, 1439 - late, 1), 1);
             due("late " + late, y.learns(1, 1, true, 1439 - late, 0), 1);
             due("late " + late + ", one more", y.learns(1, 1, true, 1440 - late, 0), NONE);
         }
@@ -491,6 +547,8 @@ public final class AskingBoundsTest extends Kit {
         LiarsCock x = village(TWO + "cock 1 law 1 late 0;place z bearing 0;person v at z knows;");
         due("by a cock of law 0", x.learns(1, 1, true, 0, 0), 1);
         due("by not so", x.learns(1, 1, false, 0, 0), 1);
+        due("the first FACT", x.learns(1, 0, true, 0, 0), 1);
+        due("the first FACT by not so", x.learns(1, 0, false, 0, 0), 1);
         due("not by law 1", x.learns(1, 1, true, 0, 1), 0);
         due("known", x.learns(0, 0, true, 0, 1), 1);
         due("who is where nobody is", x.learns(2, 1, true, 0, 0), 0);
@@ -625,6 +683,62 @@ public final class AskingBoundsTest extends Kit {
     }
 
     // ---- Promises 25, 26
+
+    /** LOOKS and WATCHES are of the cock that is told, and of its MINUTE; a MARK holds them so. */
+    private static void eachLookAndWatchOfItsCock() {
+        LiarsCock x = day();
+        x.look(0, 4, 9, 9);
+        x.look(1, 4, 0, 0);
+        x.look(1, 5, 9, 9);
+        x.look(0, 14, 200, 200);
+        x.look(1, 14, 9, 9);
+        due("all fit", x.worlds(NONE), 4);
+        due("all are so", x.judged(), NONE);
+        x.mark(0, false);
+        x.mark(0, true);
+        due("all fit behind the MARK", x.worlds(NONE), 4);
+        x.look(1, 15, 9, 9);
+        due("cock 1 turned", x.judged(), 5);
+        LiarsCock y = village(TWO + "cock 1 law 0 late 5;");
+        y.truth(1);
+        say(y, 0, 5, "not a");
+        y.watch(1, 9);
+        due("cock 1 sees nothing yet", y.hidden(0, 0), 1);
+        y.mark(0, false);
+        y.mark(0, true);
+        due("nor behind the MARK", y.hidden(0, 0), 1);
+        y.watch(1, 10);
+        due("it does now", y.hidden(0, 0), 0);
+        LiarsCock z = village(TWO + "cock 1 law 1 late 0;");
+        z.truth(1);
+        say(z, 1, 5, "not a");
+        z.watch(1, 5);
+        due("no LIE of u by law 1", z.hidden(0, 0), 1);
+        z.watch(0, 5);
+        due("but by law 0", z.hidden(0, 0), 0);
+    }
+
+    /** Each SAYING by itself: the first is a LIE that is seen, the second is so, the third a LIE that is not seen. */
+    private static void hiddenEach() {
+        LiarsCock x = village(TWO);
+        x.truth(1);
+        say(x, 0, 5, "not a");
+        say(x, 1, 10, "1");
+        say(x, 0, 15, "b");
+        x.watch(0, 14);
+        int[] want = {0, NONE, 1};
+        for (int i = 0; i < 3; i++) {
+            due("hidden " + i, x.hidden(i, 0), want[i]);
+            due("hide " + i, x.hide(i, 0), want[i] == 1 ? 0 : NONE);
+        }
+        offer(x, 1, 6, "not a");
+        offer(x, 1, 6, "a");
+        offer(x, 1, 6, "not a");
+        offer(x, 1, 6, "a");
+        due("of two by two the least as bits", x.hide(0, 0), 2);
+        due("of two by two the least as bits", x.hide(0, 1), 3);
+        due("all four, too", x.hidden(0, 15), 1);
+    }
 
     private static void hiddenBounds() {
         LiarsCock x = turns(TWO, 24);
@@ -935,7 +1049,10 @@ public final class AskingBoundsTest extends Kit {
 
     private static void personBounds() {
         LiarsCock x = village(SIX_PEOPLE);
-        bounds("person", 0, 5, p -> x.person(p, 0));
+        for (int of = 0; of <= 2; of++) {
+            int what = of;
+            bounds("person, what " + what, 0, 5, p -> x.person(p, what));
+        }
         bounds("person, what", 0, 2, what -> x.person(5, what));
         outside("person, nobody there", 0, NONE, p -> new LiarsCock().person(p, 0));
         due("the place of the last", x.person(5, 0), 5);
@@ -1004,6 +1121,12 @@ public final class AskingBoundsTest extends Kit {
         say(y, 0, 1379, "b");
         say(y, 1, 1379, "b");
         due("up to 1439", y.lookout(1, 1, 1), 1439);
+        LiarsCock w = village(TWO + "cock 1 law 1 late 0;");
+        say(w, 1, 7, "a");
+        due("by law 0", w.lookout(0, 0, 1), 7);
+        due("not by law 1", w.lookout(1, 0, 0), NONE);
+        say(w, 0, 8, "not a");
+        due("by law 1, who knows it", w.lookout(1, 0, 1), 8);
         LiarsCock z = village(TWO + "cock 1 law 0 late 60;");
         say(z, 0, 1380, "a");
         due("behind 1439", z.lookout(1, 0, 0), NONE);
@@ -1022,6 +1145,12 @@ public final class AskingBoundsTest extends Kit {
         due("the least first one", lookout(parish + "(a = b);", crossed), 10 * 1000 + 30);
         String[] three = {"a", "c", "b", "c", "b"};
         due("the least of three", lookout(parish + "((a+b+c=1)+(a+b+c=3));", three), (10 * 1000 + 30) * 1000 + 50);
+        LiarsCock x = village("fact a;fact b;fact c;common c = (a = b);" + SIX_PEOPLE);
+        say(x, 0, 10, "a");
+        say(x, 1, 11, "b");
+        due("MINUTES side by side", x.lookout(0, 2, 0), 2);
+        due("MINUTES side by side", x.lookout(0, 2, 1), 10);
+        due("MINUTES side by side", x.lookout(0, 2, 2), 11);
         String[] one = {"a", "b", "d", "d"};
         due("one is fewer than two", lookout(parish + "(a = b);", one), 50);
     }

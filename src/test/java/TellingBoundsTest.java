@@ -27,6 +27,7 @@ public final class TellingBoundsTest extends Kit {
         markBounds();
         markOfAll();
         marksApart();
+        markOfEach();
         markOfNothing();
         countBounds();
         end();
@@ -485,6 +486,47 @@ public final class TellingBoundsTest extends Kit {
         parish(x, "fact z;");
         due("a new PARISH leaves them", x.mark(2, true), true);
         due("a new PARISH leaves them", x.count(2), 2);
+    }
+
+    /** Each LOOK, OFFER, WATCH and SAYING of a MARK as it was told. */
+    private static void markOfEach() {
+        LiarsCock x = village(TWO + "cock 1 law 1 late 3;");
+        int[][] looks = {{0, 5, 0, 9, 1}, {1, 5, 9, 9, 0}, {0, 4, 9, 300, 0}, {1, 8, 350, 9, 1}, {0, 5, 9, 8, 1}, {0, 5, 8, 8, 0}};
+        x.truth(1);
+        say(x, 0, 5, "not a");
+        for (int i = 0; i < looks.length; i++) {
+            x.mark(0, false);
+            due("look", x.look(looks[i][0], looks[i][1], looks[i][2], looks[i][3]), 0);
+            due("so or not", x.judged(), looks[i][4] == 1 ? NONE : 0);
+            x.mark(1, false);
+            x.mark(0, true);
+            due("gone", x.judged(), NONE);
+            x.mark(1, true);
+            due("there once more", x.judged(), looks[i][4] == 1 ? NONE : 0);
+            x.mark(0, true);
+        }
+        for (int[] look : looks) {
+            x.look(look[0], look[1], look[2], look[3]);
+        }
+        x.mark(2, false);
+        parish(x, "");
+        x.mark(2, true);
+        due("the first that is not so", x.judged(), 1);
+        due("not so, each by itself", x.clash(0), 1);
+        offer(x, 1, 5, "0");
+        offer(x, 0, 9, "not a");
+        x.watch(0, 5);
+        x.watch(0, 9);
+        x.mark(3, false);
+        x.parish();
+        x.mark(3, true);
+        int[] hidden = {0, 1, 0, 0};
+        for (int set = 0; set < 4; set++) {
+            due("hidden by " + set, x.hidden(0, set), hidden[set]);
+        }
+        say(x, 1, 5, "1");
+        due("SAYINGS go on in 5", x.count(5), 2);
+        due("not ahead of it", say(x, 1, 4, "1"), NONE);
     }
 
     /** A MARK of a new object. */

@@ -338,6 +338,11 @@ public final class TextBoundsTest extends Kit {
         fault(six + " f a e b d c ^c;", 3);
         fault(six + " f a e b d c ^g;", 2);
         fault(six + " f a e b d c ^", 1);
+        fault("place p bearing 0;person q at ^knows;", 1);
+        fault("place p bearing 0;person q at ^;fact a;", 1);
+        fault("place p bearing 0;person q at ^fact a;", 1);
+        fault("place p bearing 0;person q ^;fact a;", 1);
+        fault("place p bearing 0;person q at p^;fact a;", 1);
         fault(six + " a ^a;", 3);
         fault(six + " a b ^a;", 3);
         fault(six + " ^p;", 2);
@@ -489,7 +494,13 @@ public final class TextBoundsTest extends Kit {
         eFault("not(not(not ^a))", 5);
         eFault("not (a + not (b + not ^a))", 5);
         eFault("((((a))))+(((((^a", 5);
-        eFault("((((a + (^a", 5);
+        for (String join : new String[] {"and", "or", "<", "=", "+", "-", "*"}) {
+            eFault("((((a " + join + " (^a", 5);
+            eFault("((((a " + join + " not ^a", 5);
+            eFault("(((a " + join + " ((^a", 5);
+            so("((((a)))) " + join + " ((((a))))", "and".equals(join) || "or".equals(join) || "+*".contains(join) ? 10
+                : "=".equals(join) ? 15 : 0);
+        }
         eFault("((((a + (^) ))))", 1);
         eFault("((((a))))^)", 1);
         so("not not not not a", 10);
