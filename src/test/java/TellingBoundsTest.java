@@ -513,6 +513,14 @@ public final class TellingBoundsTest extends Kit {
         x.mark(2, true);
         due("the first that is not so", x.judged(), 1);
         due("not so, each by itself", x.clash(0), 1);
+        LiarsCock y = village(TWO);
+        say(y, 0, 5, "0");
+        y.look(0, 5, 8, 100);
+        y.look(0, 5, 350, 8);
+        y.mark(0, false);
+        y.mark(0, true);
+        due("each to its own bearing", y.judged(), 1);
+        due("each to its own bearing", y.clash(1), 2);
         offer(x, 1, 5, "0");
         offer(x, 0, 9, "not a");
         x.watch(0, 5);
